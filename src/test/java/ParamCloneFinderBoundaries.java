@@ -23,7 +23,7 @@ public final class ParamCloneFinderBoundaries {
     private static final int[][] TEXTS = {EMPTY, {16}, SOME_TEXT, Arrays.copyOf(fullText(), 47), FULL_TEXT};
     private static final int[][] PATTERNS = {EMPTY, SOME_PATTERN, Arrays.copyOf(FULL_PATTERN, 11), FULL_PATTERN};
 
-    private static String sentence;
+    private static volatile String sentence;
     private static int wrong = 0;
 
     // Every code stands in it, and the last 16 places are as the first 16.
@@ -1155,7 +1155,23 @@ public final class ParamCloneFinderBoundaries {
         test("16: change: BAD_PLACE is tested before BAD_TOKEN", ParamCloneFinderBoundaries::changeTestsThePlaceFirst);
     }
 
+    // A call that doesn't end is a fault too; all tests together take less than a second.
+    private static void stopIfACallDoesNotEnd() {
+        Thread guard = new Thread(() -> {
+            try {
+                Thread.sleep(100_000);
+            } catch (InterruptedException unexpected) {
+                return;
+            }
+            System.out.println(sentence + "\n    a call doesn't end");
+            System.exit(1);
+        });
+        guard.setDaemon(true);
+        guard.start();
+    }
+
     public static void main(String[] args) {
+        stopIfACallDoesNotEnd();
         testTerms();
         testTextCalls();
         testPatternCalls();
